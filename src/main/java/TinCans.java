@@ -793,14 +793,12 @@ public final class TinCans {
     }
 
     private static boolean crossing(int one, int other) {
-        if ((endsOf(one) & endsOf(other)) != 0) {
-            return false;
-        }
-        return isBetween(lesser(other), one) != isBetween(greater(other), one);
-    }
-
-    private static boolean isBetween(int w, int pair) {
-        return w > lesser(pair) && w < greater(pair);
+        int a = lesser(one);
+        int b = greater(one);
+        int c = lesser(other);
+        int d = greater(other);
+        boolean unlike = a != c && a != d && b != c && b != d;
+        return unlike && (c > a && c < b) != (d > a && d < b);
     }
 
     /** The court as told, its strings and its hour: all that an image keeps. */
@@ -915,7 +913,9 @@ public final class TinCans {
             if (indexOf(pair) != NONE) {
                 return 2;
             }
-            if (isFull(lesser(pair)) || isFull(greater(pair))) {
+            int a = lesser(pair);
+            int b = greater(pair);
+            if (stringsAt(a) >= cans[a] || stringsAt(b) >= cans[b]) {
                 return 3;
             }
             for (int i = 0; i < strings; i++) {
@@ -924,10 +924,6 @@ public final class TinCans {
                 }
             }
             return 0;
-        }
-
-        private boolean isFull(int w) {
-            return stringsAt(w) >= cans[w];
         }
 
         boolean mayBeTaut(int pair) {
@@ -985,8 +981,9 @@ public final class TinCans {
         private static final int WORD = 0;
         private static final int NUMBER = 1;
         private static final int SEMICOLON = 2;
-        private static final int END = 3;
+        private static final int BLANK = 3;
         private static final int OTHER = 4;
+        private static final int END = 5;
 
         private static final int NO_TOKEN = 1;
         private static final int MISPLACED = 2;
@@ -1075,46 +1072,39 @@ public final class TinCans {
                 refuse(ONE_TOO_MANY);
                 return;
             }
-            int pair = readPair(told, 2);
+            int a = readNumber(0, told.windows - 1);
+            int b = readNumber(0, told.windows - 1);
+            wantSteps(told, a, b, 2);
             int hours = readNumber(0, ALL_HOURS);
             readSemicolon();
             if (fault == 0) {
-                told.washPairs[told.washes] = pair;
+                told.washPairs[told.washes] = pairOf(a, b);
                 told.washHours[told.washes] = hours;
                 told.washes++;
             }
         }
 
         private void readString(Court told) {
-            int pair = readPair(told, 1);
+            int a = readNumber(0, told.windows - 1);
+            int b = readNumber(0, told.windows - 1);
+            wantSteps(told, a, b, 1);
+            nextToken();
             int knots = 0;
-            goOn();
             if (isWord("knots")) {
                 knots = readNumber(0, MOST_KNOTS);
-                goOn();
+                nextToken();
             }
             wantSemicolon();
-            if (fault == 0 && told.whyNot(pair) != 0) {
+            if (told.whyNot(pairOf(a, b)) != 0) {
                 refuse(MAY_NOT_BE_TIED);
             }
             if (fault == 0) {
-                told.addString(pair, knots);
+                told.addString(pairOf(a, b), knots);
             }
-        }
-
-        /** Two windows that lie so many steps from one another, whichever way round. */
-        private int readPair(Court told, int fewestSteps) {
-            int a = readNumber(0, told.windows - 1);
-            int b = readNumber(0, told.windows - 1);
-            int steps = Math.abs(a - b);
-            if (Math.min(steps, told.windows - steps) < fewestSteps) {
-                refuse(OUT_OF_BOUNDS);
-            }
-            return pairOf(a, b);
         }
 
         private int readNumber(int least, int most) {
-            goOn();
+            nextToken();
             if (kind != NUMBER) {
                 refuse(MISPLACED);
             } else if (value < least || value > most) {
@@ -1124,7 +1114,7 @@ public final class TinCans {
         }
 
         private void readSemicolon() {
-            goOn();
+            nextToken();
             wantSemicolon();
         }
 
@@ -1134,13 +1124,15 @@ public final class TinCans {
             }
         }
 
-        /** What stands behind a fault is not read: the first fault is the one that is told. */
-        private void goOn() {
-            if (fault == 0) {
-                nextToken();
+        /** It is the second window, read last, that lies too near the first. */
+        private void wantSteps(Court told, int a, int b, int fewest) {
+            int steps = Math.abs(a - b);
+            if (Math.min(steps, told.windows - steps) < fewest) {
+                refuse(OUT_OF_BOUNDS);
             }
         }
 
+        /** Later faults are passed over: what is told is the first along the text. */
         private void refuse(int what) {
             if (fault == 0) {
                 fault = what;
@@ -1149,44 +1141,47 @@ public final class TinCans {
         }
 
         private void nextToken() {
-            for (int i = at; i < length && isBlank(tape[i]); i++) {
+            if (fault != 0) {
+                return;
+            }
+            for (int i = at; i < length && kindOf(tape[i]) == BLANK; i++) {
                 at = i + 1;
             }
             start = at;
-            if (at >= length) {
-                kind = END;
-            } else if (isLetter(tape[at])) {
-                takeWord();
-            } else if (isDigit(tape[at])) {
-                takeNumber();
-            } else if (tape[at] == ';') {
-                kind = SEMICOLON;
+            kind = at < length ? kindOf(tape[at]) : END;
+            if (kind == SEMICOLON) {
                 at++;
             } else {
-                kind = OTHER;
-                refuse(NO_TOKEN);
-            }
-        }
-
-        private void takeWord() {
-            kind = WORD;
-            for (int i = start; i < length && isLetter(tape[i]); i++) {
-                at = i + 1;
-            }
-        }
-
-        private void takeNumber() {
-            kind = NUMBER;
-            value = 0;
-            for (int i = start; i < length && isDigit(tape[i]); i++) {
-                at = i + 1;
-                if (at - start <= MOST_DIGITS) {
-                    value = 10 * value + tape[i] - '0';
+                for (int i = at; i < length && kindOf(tape[i]) == kind; i++) {
+                    at = i + 1;
                 }
             }
-            if (at - start > MOST_DIGITS) {
+            if (kind == OTHER || kind == NUMBER && at - start > MOST_DIGITS) {
                 refuse(NO_TOKEN);
+            } else if (kind == NUMBER) {
+                value = valueOfToken();
             }
+        }
+
+        private int valueOfToken() {
+            int told = 0;
+            for (int i = start; i < at; i++) {
+                told = 10 * told + tape[i] - '0';
+            }
+            return told;
+        }
+
+        private static int kindOf(int sign) {
+            if (sign >= 'a' && sign <= 'z') {
+                return WORD;
+            }
+            if (sign >= '0' && sign <= '9') {
+                return NUMBER;
+            }
+            if (sign == ';') {
+                return SEMICOLON;
+            }
+            return sign == 10 || sign == 32 ? BLANK : OTHER;
         }
 
         private boolean isWord(String word) {
@@ -1199,18 +1194,6 @@ public final class TinCans {
                 }
             }
             return true;
-        }
-
-        private static boolean isBlank(int sign) {
-            return sign == 10 || sign == 32;
-        }
-
-        private static boolean isLetter(int sign) {
-            return sign >= 'a' && sign <= 'z';
-        }
-
-        private static boolean isDigit(int sign) {
-            return sign >= '0' && sign <= '9';
         }
     }
 

@@ -1,0 +1,103 @@
+import java.io.IOException;
+import java.lang.reflect.Field;
+import java.lang.reflect.Method;
+import java.lang.reflect.Modifier;
+import java.nio.charset.StandardCharsets;
+import java.nio.file.Files;
+import java.nio.file.Path;
+import java.util.TreeSet;
+import java.util.regex.Matcher;
+import java.util.regex.Pattern;
+
+/** The public face, name by name, and the rules of LANGUAGE.md that a program can look for. */
+public final class FaceTest {
+    private static final String[] FACE = {
+        "int feed(int, int, int, int, int)", "int court(int)", "int fault(int)", "int window(int, int)",
+        "int cross(int, int)", "int pair(int, int)", "int may(int)", "int tie(int, int)", "int cut(int)",
+        "int knot(int)", "int tieAll(int)", "int pass(int)", "int damp(int)", "int gust(int, int)",
+        "int best(int, int, int, int)", "int hears(int)", "int overhears(int, int)", "int needs(int, int)",
+        "int openHours(int)", "int part(int)", "int parts()", "int stay(int)", "int brace()",
+        "int both(int, int)", "int renewed(int, int)", "int exchange(int)", "int missing(int, int, int)",
+        "int together(int, int)", "int shut(int, int)", "int web(int)", "int more()", "int calls(int, int)",
+        "int echo(int, int)", "int explained(int, int, int)", "int numbers(int, int, int)",
+        "long write(int, int, long)", "int copy(int)", "int image(int)", "int restore(int)", "int count(int)",
+    };
+
+    private static int wrong = 0;
+
+    private FaceTest() {
+    }
+
+    public static void main(String[] args) throws IOException {
+        face();
+        String source = Files.readString(Path.of("src/main/java/TinCans.java"), StandardCharsets.ISO_8859_1);
+        words(source);
+        System.out.println(wrong == 0 ? "the face is as due" : wrong + " things are not as due");
+        if (wrong != 0) {
+            System.exit(1);
+        }
+    }
+
+    private static void want(boolean fine, String what) {
+        if (!fine) {
+            wrong++;
+            System.out.println(what);
+        }
+    }
+
+    private static void face() {
+        TreeSet<String> due = new TreeSet<>();
+        TreeSet<String> names = new TreeSet<>();
+        for (String row : FACE) {
+            due.add(row);
+            names.add(row.substring(row.indexOf(' ') + 1, row.indexOf('(')));
+        }
+        TreeSet<String> shown = new TreeSet<>();
+        for (Method m : TinCans.class.getDeclaredMethods()) {
+            if (Modifier.isPublic(m.getModifiers())) {
+                StringBuilder row = new StringBuilder(m.getReturnType() + " " + m.getName() + "(");
+                for (Class<?> type : m.getParameterTypes()) {
+                    row.append(row.charAt(row.length() - 1) == '(' ? "" : ", ").append(type);
+                }
+                shown.add(row.append(")").toString());
+            } else {
+                want(Modifier.isPrivate(m.getModifiers()), m + " can be seen");
+                want(!names.contains(m.getName()), m + " bears the name of a public one");
+            }
+        }
+        want(shown.equals(due), "the methods are " + shown + ", due are " + due);
+        want(Modifier.isFinal(TinCans.class.getModifiers()), "the class is not final");
+        want(TinCans.class.getConstructors().length == 1, "the constructors");
+        for (Field f : TinCans.class.getDeclaredFields()) {
+            boolean none = f.getName().equals("NONE") && Modifier.isPublic(f.getModifiers());
+            want(none || Modifier.isPrivate(f.getModifiers()), f + " can be seen");
+        }
+        for (Class<?> inside : TinCans.class.getDeclaredClasses()) {
+            want(Modifier.isStatic(inside.getModifiers()), inside + " is not static");
+            for (Field f : inside.getDeclaredFields()) {
+                boolean fine = !Modifier.isStatic(f.getModifiers()) || Modifier.isFinal(f.getModifiers());
+                want(fine, f + " is static and not final");
+            }
+            for (Method m : inside.getDeclaredMethods()) {
+                want(!names.contains(m.getName()), m + " bears the name of a public one");
+            }
+        }
+    }
+
+    private static void words(String source) {
+        String code = source.replaceAll("(?s)/\\*.*?\\*/", " ").replaceAll("//[^\\n]*", " ")
+                .replaceAll("\"[^\"\\n]*\"", " ");
+        Matcher m = Pattern.compile("\\b(throw|throws|try|catch|synchronized|assert|package|native|volatile|"
+                + "transient)\\b|->|::|@").matcher(code);
+        while (m.find()) {
+            want(false, "the class uses " + m.group());
+        }
+        m = Pattern.compile("\\bimport\\s+([\\w.]+)").matcher(code);
+        while (m.find()) {
+            want(m.group(1).equals("java.util.Arrays"), "the class imports " + m.group(1));
+        }
+        for (int i = 0; i < source.length(); i++) {
+            want(source.charAt(i) < 128, "the sign at " + i + " is above 127");
+        }
+    }
+}
