@@ -5,6 +5,7 @@ import java.lang.reflect.Modifier;
 import java.nio.charset.StandardCharsets;
 import java.nio.file.Files;
 import java.nio.file.Path;
+import java.util.Set;
 import java.util.TreeSet;
 import java.util.regex.Matcher;
 import java.util.regex.Pattern;
@@ -23,6 +24,9 @@ public final class FaceTest {
         "long write(int, int, long)", "int copy(int)", "int image(int)", "int restore(int)", "int count(int)",
     };
 
+    private static final Set<String> LIBRARY = Set.of("Arrays.fill", "Integer.bitCount", "Math.abs", "Math.max",
+            "Math.min", "System.arraycopy");
+
     private static int wrong = 0;
 
     private FaceTest() {
@@ -32,6 +36,9 @@ public final class FaceTest {
         face();
         String source = Files.readString(Path.of("src/main/java/TinCans.java"), StandardCharsets.ISO_8859_1);
         words(source);
+        sizes();
+        library(source);
+        methods(source);
         System.out.println(wrong == 0 ? "the face is as due" : wrong + " things are not as due");
         if (wrong != 0) {
             System.exit(1);
@@ -98,6 +105,48 @@ public final class FaceTest {
         }
         for (int i = 0; i < source.length(); i++) {
             want(source.charAt(i) < 128, "the sign at " + i + " is above 127");
+        }
+    }
+
+    private static void sizes() {
+        Class<?>[] inside = TinCans.class.getDeclaredClasses();
+        want(inside.length < 12, "there are " + inside.length + " classes inside");
+        for (Class<?> type : inside) {
+            int fields = 0;
+            for (Field f : type.getDeclaredFields()) {
+                fields += Modifier.isStatic(f.getModifiers()) ? 0 : 1;
+            }
+            want(fields <= 20, type + " has " + fields + " fields");
+            for (Method m : type.getDeclaredMethods()) {
+                want(m.getParameterCount() <= 7, m + " has too many parameters");
+            }
+        }
+    }
+
+    private static void library(String source) {
+        Matcher m = Pattern.compile("\\b(Math|Arrays|Integer|Long|System)\\.(\\w+)").matcher(source);
+        while (m.find()) {
+            want(LIBRARY.contains(m.group(1) + "." + m.group(2)), "the class uses " + m.group());
+        }
+    }
+
+    /** Methods stay short, and objects are made by the constructor and by fields alone. */
+    private static void methods(String source) {
+        String[] lines = source.split("\n");
+        String head = "";
+        int begin = 0;
+        for (int i = 0; i < lines.length; i++) {
+            boolean statement = lines[i].matches(" +(for|if|while|switch|} else) .*");
+            if (lines[i].matches(" {4}( {4})?\\w[^=;]*\\) \\{") && !statement) {
+                head = lines[i];
+                begin = i;
+            }
+            if (lines[i].matches(" +}") && lines[i].indexOf('}') == head.indexOf(head.trim())) {
+                want(i - begin < 60, head.trim() + " has " + (i - begin + 1) + " lines");
+            }
+            boolean makes = lines[i].matches(" +[^/* ].*\\bnew\\b.*");
+            boolean field = lines[i].matches(" +private final .* = new .*");
+            want(!makes || field || head.trim().equals("public TinCans() {"), "line " + (i + 1) + " makes an object");
         }
     }
 }
