@@ -10,6 +10,7 @@ public final class EdgesOfNetsTest {
         shut();
         shutRefused();
         web();
+        webAsked();
         webRefused();
         more();
         calls();
@@ -139,6 +140,16 @@ public final class EdgesOfNetsTest {
         x.looks("web(0)", 25).looks("web(1)", 6);
         x = Script.of("windows 6;wash 0 3 4095;wash 1 4 4095;wash 2 5 4095;wash 0 2 4095;string 0 3;string 1 2;");
         x.looks("web(0)", 25).looks("web(1)", 6).did("pass(1)").looks("web(0)", 25).looks("web(1)", 6);
+    }
+
+    private static void webAsked() {
+        Script.says(31, "WEB, what 0: LENGTH, 1: how many.");
+        Script x = Script.of("windows 3;").looks("web(0)", 4).looks("web(1)", 3);
+        // there is always one: a court's neighbours are joined whatever hangs, whatever is tied
+        Script.says(31, "NONE: there is none (what 1: 0)");
+        x.told("windows 4;wash 0 2 4095;wash 1 3 4095;", 3).looks("web(0)", 9).looks("web(1)", 4);
+        x = Script.of(Courts.fan()).looks("web(0)", 121).looks("web(1)", 12).did("gust(3, 60)").looks("web(1)", 12);
+        x.did("pass(7)").looks("web(0)", 121);
     }
 
     private static void webRefused() {

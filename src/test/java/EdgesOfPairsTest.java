@@ -208,10 +208,14 @@ public final class EdgesOfPairsTest {
     }
 
     private static void pair() {
-        Script.says(7, "1: knots of its STRING (NONE: there is none)");
+        Script.says(7, "Of a PAIR, what 0: LENGTH");
         Script x = Script.of("windows 6;damp 3;wash 0 2 1;string 0 1 knots 9;string 1 2;string 1 3 knots 2;");
+        x.looks("pair(1, 0)", 5).looks("pair(23, 0)", 8).looks("pair(2, 0)", 8).looks("pair(3, 0)", 9);
+        x.looks("pair(5, 0)", 5);
+        Script.says(7, "1: knots of its STRING (NONE: there is none)");
         x.looks("pair(1, 1)", 9).looks("pair(22, 1)", 0).looks("pair(2, 1)", -1).looks("pair(5, 1)", -1);
-        Script.says(7, "(2, 3 also as if there were a STRING, without knots)");
+        Script.says(7, "2: its LOSS, 3: 1 if it is SLACK now, else 0 (2, 3 also as if there were a STRING, without"
+                + " knots)");
         x.looks("pair(1, 2)", 33).looks("pair(5, 2)", 6).looks("pair(2, 2)", 10).looks("pair(23, 2)", 16);
         x.looks("pair(23, 3)", 1).looks("pair(24, 3)", 1).looks("pair(2, 3)", 0);
         x.did("cut(23)").due("pair(23, 2)", 10).due("pair(23, 3)", 1).due("pair(23, 1)", -1).due("pair(23, 0)", 8);

@@ -197,7 +197,7 @@ public final class EdgesOfStringsTest {
     }
 
     private static void gustDraws() {
-        Script.says(0, "x becomes 1103515245 x + 12345, it is x >>> 16");
+        Script.says(0, "A GUST by a SEED (x, an int; a DRAW: x becomes 1103515245 x + 12345, it is x >>> 16)");
         // by hand: 0 draws 0, 54236 (x is below 0 then), 42756; 2 draws 33676, 22817, 43007
         Script.of("windows 5;").due("gust(0, 1)", 1).due("pair(1, 1)", 0);
         Script.of("windows 5;").due("gust(2, 1)", 1).due("pair(22, 1)", 2);

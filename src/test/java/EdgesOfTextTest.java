@@ -475,6 +475,7 @@ public final class EdgesOfTextTest {
         x.faulty("windows 5;damp 1;heard 2;cans 0 7;wash 0 2 4095;string 0 2;string 1 3;", 5, 69);
         // with the fault all but read, and with none of it
         x.faulty("windows 5;damp 1;heard 2;cans 0 7;wash 0 2 4095;string 0 2", 2, 58).faulty("windows", 2, 7);
+        Script.says(0, "-30 less the FAULT: a text.");
         Script.says(3, "-30 less the FAULT.");
         x.faulty("windows 5,", 1, 9).faulty("windows 5", 2, 9).faulty("windows 2;", 3, 8);
         x.faulty("windows 5;windows", 4, 10).faulty("windows 3;cans 0 0;string 0 1;", 5, 29);

@@ -115,7 +115,8 @@ public final class EdgesOfWaysTest {
     }
 
     private static void best() {
-        Script.says(16, "what 0: LOSS, 1: STRINGS, 10 + k: WINDOW k of it (0: the first).");
+        Script.says(16, "BEST from a WINDOW to another one PAST a set, what 0: LOSS, 1: STRINGS, 10 + k: WINDOW k of it"
+                + " (0: the first).");
         Script x = Script.of("windows 3;string 0 1;string 1 2;");
         wayIs(x, "best(0, 2, 0", 4, 0, 1, 2);
         wayIs(x, "best(2, 0, 0", 4, 2, 1, 0);

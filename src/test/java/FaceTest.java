@@ -5,6 +5,8 @@ import java.lang.reflect.Modifier;
 import java.nio.charset.StandardCharsets;
 import java.nio.file.Files;
 import java.nio.file.Path;
+import java.util.ArrayList;
+import java.util.List;
 import java.util.Set;
 import java.util.TreeSet;
 import java.util.regex.Matcher;
@@ -35,6 +37,9 @@ public final class FaceTest {
     public static void main(String[] args) throws IOException {
         face();
         String source = Files.readString(Path.of("src/main/java/TinCans.java"), StandardCharsets.ISO_8859_1);
+        String document = Files.readString(Path.of("../shared/DOC.md"), StandardCharsets.UTF_8);
+        faceAsTold(document);
+        groupsAsTold(document, source);
         words(source);
         sizes();
         library(source);
@@ -89,6 +94,37 @@ public final class FaceTest {
                 want(!names.contains(m.getName()), m + " bears the name of a public one");
             }
         }
+    }
+
+    /** The rows above are the document's own, less the names of parameters. */
+    private static void faceAsTold(String document) {
+        List<String> told = new ArrayList<>();
+        Matcher m = Pattern.compile("(?m)^    public (int|long) (\\w+\\(.*\\));$").matcher(document);
+        while (m.find()) {
+            told.add(m.group(1) + " " + m.group(2).replaceAll("(int|long) \\w+", "$1"));
+        }
+        want(told.equals(List.of(FACE)), "the document's face is " + told);
+        want(document.contains("public static final int NONE = -1;") && TinCans.NONE == -1, "NONE");
+        want(document.contains("    public TinCans();"), "the document's constructor");
+    }
+
+    /** Ahead of calls stands what the document says the interface says there, and they come in its order. */
+    private static void groupsAsTold(String document, String source) {
+        Matcher m = Pattern.compile("Ahead of the calls (.*) the interface says: (---- .*)\\.").matcher(document);
+        int groups = 0;
+        while (m.find()) {
+            groups++;
+            int begin = source.indexOf("    // " + m.group(2) + "\n");
+            want(begin >= 0, "the class does not say " + m.group(2));
+            String group = begin < 0 ? "" : source.substring(begin, source.indexOf("    // ----", begin + 1));
+            List<String> calls = new ArrayList<>();
+            Matcher call = Pattern.compile("(?m)^    public \\w+ (\\w+)\\(").matcher(group);
+            while (call.find()) {
+                calls.add("`" + call.group(1) + "`");
+            }
+            want(String.join(", ", calls).equals(m.group(1)), "behind " + m.group(2) + " come " + calls);
+        }
+        want(groups == 6, "the document has " + groups + " groups of calls");
     }
 
     private static void words(String source) {
