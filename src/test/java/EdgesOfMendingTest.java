@@ -130,6 +130,8 @@ public final class EdgesOfMendingTest {
         renewedIs(x, 2, 27, 1);
         renewedIs(x, 1, 27, 1);
         renewedIs(x, 22, 27, 22);
+        // the first by number, though the other one was tied first
+        renewedIs(Script.of("windows 3;string 1 2 knots 9;string 0 1 knots 9;"), 2, 27, 1);
         x = Script.of("windows 3;string 0 1 knots 8;string 1 2 knots 9;");
         renewedIs(x, 2, 27, 22);
         // knots that are on no best way, with or without them

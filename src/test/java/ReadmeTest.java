@@ -12,8 +12,6 @@ import java.util.regex.Matcher;
 import java.util.regex.Pattern;
 import java.util.stream.Collectors;
 import java.util.stream.Stream;
-import javax.tools.JavaCompiler;
-import javax.tools.ToolProvider;
 
 /** Compiles the lines of Java in README.md and runs them: each call answers what the page says behind it. */
 public final class ReadmeTest {
@@ -26,7 +24,8 @@ public final class ReadmeTest {
     private ReadmeTest() {
     }
 
-    public static void main(String[] args) throws IOException, ReflectiveOperationException {
+    public static void main(String[] args)
+            throws IOException, InterruptedException, ReflectiveOperationException {
         String page = Files.readString(Path.of("README.md"), StandardCharsets.UTF_8);
         namesAllCalls(page);
         run(program(page));
@@ -86,15 +85,15 @@ public final class ReadmeTest {
         return "ReadmeTest.due(\"" + told + "\", " + m.group(1) + ", " + m.group(2) + "L);";
     }
 
-    private static void run(String program) throws IOException, ReflectiveOperationException {
-        JavaCompiler compiler = ToolProvider.getSystemJavaCompiler();
+    private static void run(String program)
+            throws IOException, InterruptedException, ReflectiveOperationException {
         Path folder = Files.createTempDirectory("page");
         try {
             Path file = folder.resolve("Page.java");
             Files.writeString(file, program, StandardCharsets.UTF_8);
-            int failed = compiler.run(null, null, null, "-cp", System.getProperty("java.class.path"),
-                    "-d", folder.toString(), file.toString());
-            if (failed != 0) {
+            Process javac = new ProcessBuilder("javac", "-cp", System.getProperty("java.class.path"),
+                    "-d", folder.toString(), file.toString()).inheritIO().start();
+            if (javac.waitFor() != 0) {
                 fail("the page's lines don't compile");
                 return;
             }
